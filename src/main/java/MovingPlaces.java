@@ -176,11 +176,12 @@ public final class MovingPlaces {
         if (p == q) {
             return STATE;
         }
-        int length = shortestRow(p, q);
-        if (k == -1) {
-            return length;
+        for (int length = 0; length <= MOST_ROW; length++) {
+            if (findRow(now, 0, length, p, q)) {
+                return k == -1 ? length : threadInRow(k, length);
+            }
         }
-        return k < length ? row[k] : NONE;
+        return NONE;
     }
 
     // ---- 3 what may move
@@ -249,17 +250,14 @@ public final class MovingPlaces {
         return count;
     }
 
-    /** The length of the shortest row that brings p within q, the first of which then stands in 'row'. */
-    private int shortestRow(int p, int q) {
-        for (int length = 0; length <= MOST_ROW; length++) {
-            if (findRow(now, 0, length, p, q)) {
-                return length;
-            }
-        }
-        return NONE;
+    private int threadInRow(int k, int length) {
+        return k >= 0 && k < length && k < row.length ? row[k] : NONE;
     }
 
-    /** Whether p is within q after 'length' acts, the first 'done' of which led to this world. */
+    /**
+     * Whether p comes to be within q by 'length' acts, the first 'done' of which led to this world;
+     * the first row that brings it then stands in 'row'.
+     */
     private boolean findRow(World world, int done, int length, int p, int q) {
         if (done >= length || done >= tries.length || done >= row.length) {
             return world.isWithin(p, q);

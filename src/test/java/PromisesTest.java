@@ -844,6 +844,17 @@ public final class PromisesTest {
         due("and once more", x.restore(), 1);
         due("as it was", x.many(0), 3);
         due("can", x.can(), set(0, 2));
+        MovingPlaces y = new MovingPlaces();
+        y.thread(0, 5050L);
+        y.message(0, 1);
+        y.act(0);
+        y.message(0, 2);
+        y.keep();
+        y.act(0);
+        due("heard another", y.ofThread(0, 3), 2);
+        y.restore();
+        due("heard the one before", y.ofThread(0, 3), 1);
+        due("the message is there again", y.ofPlace(0, 12), 1);
     }
 
     private static void many() {
@@ -873,6 +884,8 @@ public final class PromisesTest {
         due("one message fewer", x.many(4), 2);
         due("two are over", x.many(2), 2);
         due("threads that are over count", x.many(1), 3);
+        x.message(0, 5);
+        due("the ground's messages, too", x.many(4), 3);
         x.keep();
         due("an image", x.many(5), 1);
         for (int what : new int[] {-9, -1, 6, 7, 10, Integer.MIN_VALUE, Integer.MAX_VALUE}) {
