@@ -551,9 +551,12 @@ public final class BoundaryTest {
             due("the first", x.ofThread(0, 4), 15);
             MovingPlaces y = world();
             y.thread(0, 414243L);
-            times(1, () -> y.act(0));
+            y.act(0);
             due("the first was said", y.ofPlace(0, 11), 1);
             due("not the last", y.ofPlace(0, 13), 0);
+            for (int hears = 0; hears <= 6; hears++) {
+                dueActsInTurn(hears);
+            }
             long[] odd = {1L, 4L, 5L, 9L, 110L, 440L, 512L, 10101L, 1010101L, 101010101L, 10101010101L};
             for (long acts : odd) {
                 due("an odd count of digits: " + acts, world().thread(0, acts), OUTSIDE);
@@ -594,6 +597,22 @@ public final class BoundaryTest {
                 due("5" + digit + " in front", world().thread(0, 5040L + 100 * digit), digit == 0 ? 0 : OUTSIDE);
             }
         });
+    }
+
+    /** Six acts: some of the greatest number, 50, and then those of the least, 10, that can't be done. */
+    private static void dueActsInTurn(int hears) {
+        MovingPlaces x = world();
+        times(6, () -> x.message(0, 0));
+        long acts = 0;
+        for (int i = 0; i < 6; i++) {
+            acts = acts * 100 + (i < hears ? 50 : 10);
+        }
+        x.thread(0, acts);
+        for (int i = 0; i < hears; i++) {
+            due("act " + i + " of " + acts, x.ofThread(0, 4), 50);
+            due("it is done", x.act(0), HEAR);
+        }
+        due("behind the last that is done, of " + acts, x.ofThread(0, 4), hears == 6 ? NONE : 10);
     }
 
     // ---- terms 2: when an act can be done
@@ -1158,6 +1177,19 @@ public final class BoundaryTest {
             x.seal(2, SEALED);
             due("also in a sealed one", x.place(2, 0), 3);
             due("in the last of twelve", deepest().ofPlace(11, 1), 10);
+            MovingPlaces y = new MovingPlaces();
+            for (int p = 0; p < 12; p++) {
+                due("place " + p, p == 0 ? 0 : y.place(p - 1, p % 6), p);
+                for (int n = 0; n <= 5; n++) {
+                    y.message(p, n);
+                }
+                due("those that were there keep their messages", y.many(4), 6 * (p + 1));
+            }
+            for (int p = 0; p < 12; p++) {
+                for (int n = 0; n <= 5; n++) {
+                    due("one of name " + n + " in " + p, y.ofPlace(p, 10 + n), 1);
+                }
+            }
         });
         says("UNKNOWN: in, name", () -> {
             MovingPlaces x = worldWithGone();
